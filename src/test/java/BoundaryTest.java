@@ -450,6 +450,9 @@ public final class BoundaryTest {
             due("Promise 5: READ the key",
                     "begin 0 strict = 0; put 0 0 5 = 0", each(key, key, "get 0 # = ABSENT"),
                     otherCommits, "commit 0 = UNSAFE");
+            due("Promise 5: READ the keys of all its get calls",
+                    "begin 0 strict = 0; put 0 0 5 = 0", each(1, 7, "get 0 # = ABSENT"),
+                    "get 0 0 = 5", otherCommits, "commit 0 = UNSAFE");
             due("Promise 5: READ the keys of its get calls, and no other",
                     "begin 0 strict = 0; put 0 0 5 = 0",
                     each(1, 7, "get 0 # = ABSENT").replace("get 0 " + key + " = ABSENT",
@@ -680,6 +683,17 @@ public final class BoundaryTest {
     }
 
     private static void vacuum() {
+        due("Promise 11: Changes nothing that any call answers: an object without transactions",
+                "vacuum; vacuum; committedSize = 0; crash = 0; begin 0 loose = 0",
+                each(0, 7, "put 0 # 1# = 0"), "commit 0 = 8; vacuum; vacuum; committedSize = 8",
+                each(0, 7, "committed # = 1#"), each(0, 4, "size # = IDLE"), "crash = 0");
+        due("Promise 11: Changes nothing that any call answers: snapshots older than the table",
+                "begin 0 loose = 0; put 0 0 1 = 0; put 0 1 1 = 0; commit 0 = 2; begin 1 loose = 0",
+                "begin 2 loose = 0; put 2 7 7 = 0; save 2 = 1; put 2 6 6 = 0",
+                "begin 0 loose = 0; remove 0 0 = 0; put 0 1 2 = 1; put 0 2 2 = 0; commit 0 = 3",
+                "vacuum; size 1 = 2; get 1 0 = 1; get 1 1 = 1; get 1 2 = ABSENT",
+                "undo 2 = 0; vacuum; size 2 = 3; undo 2 = 0; vacuum; size 2 = 2; get 2 0 = 1",
+                "get 2 1 = 1; get 2 2 = ABSENT; put 2 1 3 = LATE; undo 1 = 0; get 1 1 = 1");
         due("Promise 11: Changes nothing that any call answers: snapshots, savepoints, held keys",
                 "vacuum; vacuum; committedSize = 0; crash = 0; begin 0 loose = 0; put 0 0 1 = 0",
                 "put 0 1 1 = 0; commit 0 = 2; begin 1 strict = 0; vacuum; get 1 1 = 1",
